@@ -1289,7 +1289,6 @@ public final class SizedParts {
             number = itsNumber;
             size = part.size;
             failed = false;
-            count = 0;
             int value = run(kind, act, x, 0);
             return failed ? PARTED_BY_ZERO : value;
         }
