@@ -637,7 +637,8 @@ public final class SizedParts {
         }
 
         int moved(int node, int much) {
-            int to = level[node] + much / weight[node];
+            int by = weight[node];
+            int to = level[node] + (by > 0 ? much / by : 0);
             return to < 0 ? 0 : to > TOP_LEVEL ? TOP_LEVEL : to;
         }
 

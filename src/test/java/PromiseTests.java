@@ -207,18 +207,20 @@ public final class PromiseTests {
         x.part(3, 4, 2, 0, 13);
         x.part(4, 23, 3, 123, 4);
         x.part(5, 32, 4, 123, 4);
+        x.part(1, 32, 4, 100, 4);
         int[][] due = {
             {1, 43, 9, 0, 1, 5, 9, -9, -9},
             {2, 10, 1, 0, 0, 3, 2, 4, -9},
             {3, 4, 2, 0, 0, 0, 0, 3, 1},
             {4, 23, 3, 0, -9, -9, -9, -9, -9},
-            {5, 32, 4, 0, -9, -9, -9, -9, -9}};
-        for (int p = 0; p < 5; p++) {
+            {5, 32, 4, 0, -9, -9, -9, -9, -9},
+            {1, 32, 4, 0, 1, 0, 0, -9, -9}};
+        for (int p = 0; p < 6; p++) {
             for (int what = 0; what <= 8; what++) is("partOf " + p + " " + what, x.partOf(p, what), due[p][what]);
         }
         x.breaks(4, 2);
         is("broken", x.partOf(4, 3), 2);
-        is("no such part", x.partOf(5, 0), -1);
+        is("no such part", x.partOf(6, 0), -1);
         is("no such part", x.partOf(-1, 0), -1);
         is("no such part", x.partOf(MAX, 4), -1);
         is("another what", x.partOf(0, 9), -1);
@@ -433,6 +435,14 @@ public final class PromiseTests {
         is("at the feed's level", y.rests(8), 21);
         y.part(5, 12, 4, 0, 0);
         is("nowhere", y.rests(8), 0);
+        // gated by node 4 at g, node 2 stays d off the feed if d times g is below 10:
+        // 21, 19, 9, 7, 5, 3, 3, 3, 3, 3 for g 0 to 9, and 1 for 10 to 20, each with all of node 3
+        SizedParts z = withLine();
+        z.part(2, 12, 4, 5, 4);
+        is("gated", z.rests(4), 87 * 21);
+        z.part(5, 1, 9, 0, 0);
+        z.part(4, 34, 9, 0, 0);
+        is("what touches no inner node, a store", z.rests(4), 87 * 21);
         for (int bad : new int[] {-1, 9, MIN, MAX}) is("corner " + bad, x.rests(bad), -1);
     }
 
@@ -529,6 +539,13 @@ public final class PromiseTests {
         fault("wish flow ;", 10);
         fault("wish 1;", 6);
         fault("wish 1 + ;", 9);
+        fault("wish 1 = ;", 9);
+        fault("wish 1 = 1 + ;", 13);
+        fault("wish 1 = 1 and ;", 15);
+        fault("wish (1 = 1) = 1;", 13);
+        fault("fish 1 = 1;", 0);
+        fault("wis 1 = 1;", 0);
+        fault("wish mode 1 = 1;", 5);
         fault("wish 1 and 1 = 1;", 7);
         fault("wish 1 = 1 = 1;", 11);
         fault("wish 1 = 1 1;", 11);
@@ -810,6 +827,11 @@ public final class PromiseTests {
         x.part(5, 12, 4, 0, 0);
         is("up to 9", x.far(0, true), 5);
         is("down to 1", x.far(0, false), 3);
+        x.size(0, 1);
+        is("all the way up", x.far(0, true), 8);
+        x.size(0, 9);
+        is("all the way down", x.far(0, false), 8);
+        x.size(0, 4);
         is("read", read(x, "wish flow 0 < 7 and not flow 0 = 2;"), 1);
         is("up", x.far(0, true), 2);
         is("down, each one on the way", x.far(0, false), 1);
