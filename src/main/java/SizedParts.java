@@ -586,7 +586,8 @@ public final class SizedParts {
 
         private void setUpLaw(Plan plan, int i, int making, int heat) {
             Part part = plan.parts[i];
-            int size = part.kind == PAIR && plan.hasPart(part.twin) ? plan.parts[part.twin].size : part.size;
+            boolean twinned = part.kind == PAIR && part.twin >= 0 && part.twin < plan.partCount;
+            int size = twinned ? plan.parts[part.twin].size : part.size;
             tableAt[i] = part.table * LEVELS;
             shift[i] = part.err * making;
             factor[i] = size * (10 + (part.warmAndFive - 5) * heat);

@@ -1,18 +1,24 @@
+import java.io.PrintWriter;
+import java.io.StringWriter;
 import java.lang.management.ManagementFactory;
 import java.lang.reflect.Constructor;
 import java.lang.reflect.Field;
 import java.lang.reflect.Method;
 import java.lang.reflect.Modifier;
 import java.nio.charset.StandardCharsets;
+import java.nio.file.DirectoryStream;
 import java.nio.file.Files;
 import java.nio.file.Path;
 import java.util.ArrayList;
 import java.util.Arrays;
 import java.util.List;
+import java.util.Map;
 import java.util.Set;
+import java.util.TreeMap;
 import java.util.TreeSet;
 import java.util.regex.Matcher;
 import java.util.regex.Pattern;
+import java.util.spi.ToolProvider;
 
 /** The public face, and those rules of LANGUAGE.md that can be seen from outside; run in the project's folder. */
 public final class RulesTests {
@@ -42,6 +48,7 @@ public final class RulesTests {
         inside();
         words();
         lengths();
+        depths();
         room();
         System.out.println(passed + " passed, " + failed + " failed");
         if (failed > 0) System.exit(1);
@@ -146,6 +153,66 @@ public final class RulesTests {
                 since = 0;
             }
         }
+    }
+
+    /** Calls that are no recursion go eight deep at most, the public one among them. */
+    private static void depths() throws Exception {
+        if (ToolProvider.findFirst("javap").isEmpty()) {
+            System.out.println("there is no javap here: how deep calls go was not looked at");
+            return;
+        }
+        Map<String, Set<String>> calls = callGraph();
+        for (String f : FACE) {
+            String name = "SizedParts." + f.substring(0, f.indexOf('('));
+            List<String> deepest = deepest(name, calls, new ArrayList<>(List.of(name)));
+            rule(name + " goes eight deep at most: " + deepest, deepest.size() <= 8);
+        }
+    }
+
+    /** The longest way down on which no method comes twice. */
+    private static List<String> deepest(String at, Map<String, Set<String>> calls, List<String> way) {
+        List<String> longest = new ArrayList<>(way);
+        for (String next : calls.getOrDefault(at, Set.of())) {
+            if (way.contains(next)) continue;
+            way.add(next);
+            List<String> found = deepest(next, calls, way);
+            if (found.size() > longest.size()) longest = found;
+            way.remove(way.size() - 1);
+        }
+        return longest;
+    }
+
+    /** Which methods of the class and of those inside it call which, as javap tells it. */
+    private static Map<String, Set<String>> callGraph() throws Exception {
+        Path folder = Path.of(SizedParts.class.getProtectionDomain().getCodeSource().getLocation().toURI());
+        List<String> args = new ArrayList<>(List.of("-p", "-c"));
+        try (DirectoryStream<Path> files = Files.newDirectoryStream(folder, "SizedParts*.class")) {
+            for (Path file : files) {
+                String name = file.getFileName().toString();
+                if (name.equals("SizedParts.class") || name.startsWith("SizedParts$")) args.add(file.toString());
+            }
+        }
+        StringWriter told = new StringWriter();
+        PrintWriter writer = new PrintWriter(told);
+        ToolProvider javap = ToolProvider.findFirst("javap").orElseThrow();
+        rule("javap tells the calls", javap.run(writer, writer, args.toArray(new String[0])) == 0);
+        Pattern classLine = Pattern.compile("^(?:\\w+ )*class ([\\w$]+)"), methodLine = Pattern.compile("^  [\\w$. \\[\\]]*?([\\w$]+)\\(.*\\);$");
+        Pattern callLine = Pattern.compile("// Method (?:([\\w$/]+)\\.)?(\\w+):");
+        Map<String, Set<String>> calls = new TreeMap<>();
+        String inside = "", method = "";
+        for (String line : told.toString().split("\\R")) {
+            Matcher c = classLine.matcher(line), m = methodLine.matcher(line), call = callLine.matcher(line);
+            if (c.find()) {
+                inside = c.group(1);
+            } else if (m.find()) {
+                method = inside + "." + m.group(1);
+                calls.put(method, new TreeSet<>());
+            } else if (call.find() && (call.group(1) == null || call.group(1).startsWith("SizedParts"))) {
+                calls.get(method).add((call.group(1) == null ? inside : call.group(1)) + "." + call.group(2));
+            }
+        }
+        rule("the calls are told: " + calls.size(), calls.size() > 100);
+        return calls;
     }
 
     /** One room for all calls: nothing is made by calls, and little by the constructor. */
