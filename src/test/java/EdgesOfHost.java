@@ -347,6 +347,13 @@ final class EdgesOfHost extends Edges {
             is("as a part", x.taken(shelf, 0), MISSING);
             is("as a row", x.taken(shelf, 10), MISSING);
         }
+        x.part(SOURCE, 12, 1, 0, 0);
+        x.sheet(0, 0, 1);
+        for (int shelf = 0; shelf <= 3; shelf++) {
+            is("as a part", x.taken(shelf, 0), MISSING);
+            is("as a row", x.taken(shelf, 10), MISSING);
+            is("no act", x.act(shelf, 0, 5), 0);
+        }
     }
 
     @Promise(n = 37, says = "a SHEET's row (that of then)")

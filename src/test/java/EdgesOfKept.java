@@ -50,11 +50,34 @@ final class EdgesOfKept extends Edges {
         y.keep();
         x.read();
         for (int i = 0; i < 10; i++) x.drop();
+        for (int i = 0; i < 10; i++) x.part(i == 3 ? PAIR : VALVE, 42, 9 - i % 9, 54, i == 3 ? 24 : 4);
+        for (int i = 6; i < 10; i++) x.open(i, 9, 9);
+        for (int i = 0; i < 6; i++) x.change(9 - i, (i + 1) % 3);
+        for (int i = 0; i < 10; i++) x.breaks(i, 2);
         for (int node = 2; node <= 4; node++) x.measured(node, -1);
         x.feedAt(1);
         x.start(1);
         x.again();
         is("all is as it was", Told.by(x).equals(Told.by(y)) ? 1 : 0, 1);
+    }
+
+    @Promise(n = 42, says = "All but THE TAPE, ROWS, SHEETS, SHELVES, THE TRACE is kept")
+    void keepOfTables() {
+        SizedParts x = withLine();
+        x.part(BRIDGE, 10, 1, 5, 0);
+        x.keep();
+        x.put(0, 10, 30);
+        is("table", x.table(0), 1);
+        is("part", x.part(BRIDGE, 10, 1, 105, 0), 1);
+        is("of the second table", x.flow(1, 0, 4), 30);
+        x.again();
+        is("tables", x.many(1), 1);
+        is("of the first table", x.flow(0, 0, 4), 10);
+        is("no second table", x.part(BRIDGE, 10, 1, 105, 0), BAD);
+        x.put(0, 10, 29);
+        is("table", x.table(0), 1);
+        is("part", x.part(BRIDGE, 10, 1, 105, 0), 1);
+        is("of the second table", x.flow(1, 0, 4), 29);
     }
 
     private static SizedParts full() {

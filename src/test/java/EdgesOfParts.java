@@ -194,8 +194,13 @@ final class EdgesOfParts extends Edges {
     @Promise(n = 3, says = "100 times the TABLE, 10 times ERR, and WARM with 5 added, as digits")
     void partOfTheLastTable() {
         SizedParts x = withTables(4);
-        is("law 359", x.part(BRIDGE, 12, 1, 359, 0), 0);
-        is("table", x.partOf(0, 4), 3);
+        int[] laws = {100, 159, 200, 259, 300, 350, 309, 359};
+        for (int i = 0; i < laws.length; i++) {
+            is("law " + laws[i], x.part(BRIDGE, 12, 1, laws[i], 0), i);
+            is("table", x.partOf(i, 4), laws[i] / 100);
+            is("err", x.partOf(i, 5), laws[i] / 10 % 10);
+            is("warm", x.partOf(i, 6), laws[i] % 10);
+        }
         is("law 400", x.part(BRIDGE, 12, 1, 400, 0), BAD);
     }
 
@@ -272,7 +277,9 @@ final class EdgesOfParts extends Edges {
         is("twin 2, a valve", x.part(PAIR, 12, 1, 5, 20), 6);
         is("twin 3, a pair", x.part(PAIR, 12, 1, 5, 30), 7);
         is("twin 7, just ahead", x.part(PAIR, 12, 1, 5, 70), 8);
-        for (int part = 6; part <= 8; part++) is("twin", x.partOf(part, 8), new int[] {2, 3, 7}[part - 6]);
+        is("twin 8, just ahead", x.part(PAIR, 12, 1, 5, 84), 9);
+        for (int part = 6; part <= 9; part++) is("twin", x.partOf(part, 8), new int[] {2, 3, 7, 8}[part - 6]);
+        is("gate", x.partOf(9, 7), 4);
     }
 
     @Promise(n = 3, says = {"gate: of a VALVE, PAIR", "else it counts nothing. BAD"})
@@ -428,6 +435,23 @@ final class EdgesOfParts extends Edges {
         wishes(x, 1, "wish flow 0 = 6;");
         is("number 1", x.help(), 2);
         is("the next number", x.change(0, 1), 2);
+    }
+
+    @Promise(n = 7, says = "(CHANGES of it")
+    void dropLeavesChangesOfOthers() {
+        SizedParts x = withSources(4, 4, 4);
+        x.change(0, 0);
+        x.change(1, 0);
+        x.change(2, 0);
+        x.drop();
+        is("changes", x.many(4), 2);
+        wishes(x, 1, "wish flow 0=0;");
+        is("number 0", x.help(), 1);
+        wishes(x, 1, "wish flow 1=0;");
+        is("number 1", x.help(), 2);
+        x.drop();
+        x.drop();
+        is("changes", x.many(4), 0);
     }
 
     @Promise(n = 7, says = "and that it is OPEN, too)")

@@ -167,6 +167,39 @@ final class EdgesOfSizing extends Edges {
         is("sizes stay", x.partOf(0, 2), 1);
     }
 
+    @Promise(n = 22, says = "with which all WISHES are MET")
+    void sizingLooksAtAllCornersAndNoOther() {
+        SizedParts x = withNineFlows();
+        wishes(x, 1, "wish flow 0>39 and flow 0<149;");
+        is("met", x.sizing(-1), 0);
+        is("far", x.far(0, true), 0);
+        is("help", x.help(), 0);
+        wishes(x, 1, "wish flow 0>40;");
+        is("missed in the first", x.sizing(-1), NONE);
+        wishes(x, 1, "wish flow 0<148;");
+        is("missed in the last", x.sizing(-1), NONE);
+        for (int corner = 0; corner <= 8; corner++) {
+            wishes(x, 1, "wish not flow 0=" + NINE_FLOWS[corner] + ";");
+            is("missed in " + corner, x.sizing(-1), NONE);
+        }
+    }
+
+    @Promise(n = 22, says = "with which all WISHES are MET")
+    void sizingByTheLastTable() {
+        SizedParts x = new SizedParts();
+        x.sheet(0, 0, 21);
+        for (int i = 0; i < 4; i++) {
+            x.put(0, 10, 2 * i + 1);
+            x.table(0);
+        }
+        x.part(BRIDGE, 10, 1, 305, 0);
+        x.open(0, 1, 4);
+        wishes(x, 1, "wish flow 0>20;");
+        is("7, 14, 21", x.sizing(0), 3);
+        x.size(0, 3);
+        is("21, 28 .. 63", x.far(0, true), 6);
+    }
+
     // ---- 23 prove
 
     @Promise(n = 23, says = "NONE")
@@ -273,6 +306,12 @@ final class EdgesOfSizing extends Edges {
         is("the second", y.judge(), 2);
         for (int i = 0; i < 4; i++) y.open(i, 1, 0);
         is("the first", y.judge(), 1);
+        for (int size : new int[] {-1, 0, 1, 9}) {
+            SizedParts z = withFourOpen();
+            z.open(3, 1, 0);
+            z.alterRow(3, 1, size);
+            is("the fourth, of size " + size, z.judge(), 4);
+        }
     }
 
     @Promise(n = 26, says = {"11: there are too few", "if all are, as many as there are OPEN PARTS"})
@@ -457,6 +496,39 @@ final class EdgesOfSizing extends Edges {
         }
     }
 
+    @Promise(n = 30, says = {"it is open (what 0)", "its NODES change places (1)"})
+    void helpByOpeningAndByTurning() {
+        SizedParts x = new SizedParts();
+        x.part(SOURCE, 12, 4, 0, 0);
+        x.change(0, 0);
+        x.change(0, 1);
+        wishes(x, 1, "wish flow 0=0 and node 2=0;");
+        is("open", x.help(), 1);
+        wishes(x, 1, "wish flow 0=4 and node 2=0;");
+        is("turned", x.help(), 2);
+        wishes(x, 1, "wish flow 0=4 and node 2=20;");
+        is("as it is", x.help(), 0);
+        x.change(0, 1);
+        x.start(state(20, 0, 0));
+        wishes(x, 1, "wish flow 0=4 and node 2=0;");
+        is("turned once, not twice", x.help(), 2);
+        is("it stays", x.partOf(0, 1), 12);
+        is("it stays whole", x.partOf(0, 3), 0);
+    }
+
+    @Promise(n = 30, says = "it is open (what 0)")
+    void helpByOpeningAShutOne() {
+        SizedParts x = new SizedParts();
+        x.part(SOURCE, 10, 4, 0, 0);
+        x.breaks(0, 2);
+        x.change(0, 0);
+        wishes(x, 1, "wish flow 0=400;");
+        is("shut", x.help(), 0);
+        wishes(x, 1, "wish flow 0=0;");
+        is("open", x.help(), 1);
+        is("it stays shut", x.partOf(0, 3), 2);
+    }
+
     @Promise(n = 30, says = "(done one behind the other, by numbers, at once)")
     void helpOneBehindTheOther() {
         SizedParts x = withSources(4, 4);
@@ -556,6 +628,12 @@ final class EdgesOfSizing extends Edges {
         is("9 and 1", z.which(), 3);
         z.size(2, 5);
         is("9 less 1 by 9 moves nothing", z.which(), NONE);
+        SizedParts w = new SizedParts();
+        w.part(SOURCE, 20, 9, 0, 0);
+        w.part(SOURCE, 12, 5, 0, 0);
+        w.part(STORE, 23, 4, 0, 0);
+        w.measured(2, 20);
+        is("1 and 9", w.which(), 3);
     }
 
     @Promise(n = 32, says = "THE END has all LEVELS that were MEASURED, the one of the fewest; of several the least as bits")

@@ -50,6 +50,24 @@ final class EdgesOfTicks extends Edges {
         is("6 less 5, back", x.flow(0, state(0, 6, 0), 1), -9);
     }
 
+    @Promise(n = 10, says = "BRIDGE: its number of the TABLE for D (without its sign)")
+    void numberOfEachTable() {
+        SizedParts x = new SizedParts();
+        x.sheet(0, 0, 21);
+        for (int table = 0; table < 4; table++) {
+            for (int d : new int[] {1, 20}) x.put(0, d, 7 * table + d % 10);
+            x.table(0);
+            x.part(BRIDGE, 23, 1, 100 * table + 5, 0);
+            x.part(VALVE, 32, 1, 100 * table + 5, 1);
+        }
+        for (int table = 0; table < 4; table++) {
+            is("1 of table " + table, x.flow(2 * table, state(9, 8, 0), 4), 7 * table + 1);
+            is("-1 of table " + table, x.flow(2 * table + 1, state(9, 8, 0), 4), -7 * table - 1);
+            is("20 of table " + table, x.flow(2 * table + 1, state(0, 20, 0), 4), 7 * table);
+            is("-20 of table " + table, x.flow(2 * table, state(0, 20, 0), 4), -7 * table);
+        }
+    }
+
     @Promise(n = 10, says = "and ERR times (MAKING less 1), 0 at least")
     void numberOfTheTableMayBeAbove30() {
         SizedParts x = new SizedParts();
@@ -248,6 +266,10 @@ final class EdgesOfTicks extends Edges {
         x.breaks(2, 2);
         x.breaks(3, 2);
         is("weight 4", x.tick(state(5, 5, 5), 4), state(7, 5, 3));
+        x.part(STORE, 34, 5, 0, 0);
+        is("weight 9 of 4, its second node", x.tick(state(5, 5, 5), 4), state(7, 5, 4));
+        x.part(STORE, 42, 1, 0, 0);
+        is("weight 10 of 4, 5 of 2", x.tick(state(5, 5, 5), 4), state(6, 5, 5));
     }
 
     @Promise(n = 11, says = "all at once")
@@ -362,6 +384,38 @@ final class EdgesOfTicks extends Edges {
         is("2 to 18", x.rests(1), 17 * 441);
         is("7 to 13", x.rests(4), 7 * 441);
         is("10", x.rests(7), 441);
+    }
+
+    @Promise(n = 13, says = "A STATE is at REST in a CORNER, if a TICK leaves it.")
+    void restsBehindGates() {
+        // gated at g (10 at most), node 2 stays d off the feed's 10 if d times g is below 10: for a gate apart from it
+        // in 21, 19, 9, 7, 5, 3, 3, 3, 3, 3 cases for g 0 to 9, and in 1 for 10 to 20; gated by itself at 0, 1, 9, 10
+        int[] rests = {9261, 441, 4 * 441, 87 * 21, 87 * 21};
+        int[] last = {9260, state(10, 20, 20), state(10, 20, 20), state(20, 0, 20), state(20, 20, 0)};
+        for (int gate = 0; gate <= 4; gate++) {
+            SizedParts x = withLine();
+            x.part(VALVE, 12, 4, 5, gate);
+            is("gate " + gate, x.rests(4), rests[gate]);
+            is("the last, gate " + gate, x.restAt(4, rests[gate] - 1), last[gate]);
+            is("none behind it, gate " + gate, x.restAt(4, rests[gate]), NONE);
+        }
+    }
+
+    @Promise(n = 13, says = "A STATE is at REST in a CORNER, if a TICK leaves it.")
+    void restsOfAllNodesAtOnce() {
+        for (int ends : new int[] {24, 42}) {
+            SizedParts x = withLine();
+            x.part(BRIDGE, ends, 4, 5, 0);
+            x.part(STORE, 14, 9, 0, 0); // a fall of 1 moves node 2, and only one of 4 node 4
+            is("2 and 4 alike", x.rests(4), 441);
+        }
+        SizedParts y = new SizedParts();
+        y.part(SOURCE, 12, 4, 0, 0);
+        y.part(SOURCE, 23, 4, 0, 0);
+        is("as much goes from 2 as comes to it, 3 is full", y.rests(4), 441);
+        is("the first", y.restAt(4, 0), state(0, 20, 0));
+        y.breaks(0, 1);
+        is("2 is empty, 3 is full", y.rests(4), 21);
     }
 
     // ---- 14 restAt

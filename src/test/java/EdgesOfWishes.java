@@ -262,6 +262,12 @@ final class EdgesOfWishes extends Edges {
         fault(" ".repeat(216) + "wish", 220);
         isText(" ".repeat(211) + "wish 1=1;", 1);
         isText("wish 1" + "+1".repeat(105) + "=1;", 1);
+        isText("wish1" + "+1".repeat(106) + "=1;", 1);
+        fault("wish1" + "+1".repeat(107) + "=", 220);
+        fault(";".repeat(220), 0);
+        fault("wish" + "(".repeat(216), 8);
+        fault("1".repeat(220), 0);
+        fault("w".repeat(220), 0);
     }
 
     // ---- 18 missed
@@ -325,6 +331,10 @@ final class EdgesOfWishes extends Edges {
         is("missed", x.missed(), 0b101);
         wishes(x, 3, "wish not not 1=1;wish not not not 1=1;wish 1=2 or 1=2 or 1=1;");
         is("missed", x.missed(), 0b010);
+        wishes(x, 3, "wish 1=2 and(1=1);wish 1=2 and(1=1 or 1=1);wish 1=1 or(1=1 and 1=2);");
+        is("missed", x.missed(), 0b011);
+        wishes(x, 3, "wish 1=1 or 1=2 and(1=2 or not(1=1 and(1=2)));wish 1=1 and(1=1 and(1=1 and(1=1 and(1=1))));wish not(1=1)or 1=2;");
+        is("missed", x.missed(), 0b100);
     }
 
     // ---- 19 worst
