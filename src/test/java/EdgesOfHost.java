@@ -521,6 +521,15 @@ final class EdgesOfHost extends Edges {
         acts(broken, 0, 1 << 29, (1 << 29) * 7 + 63, 70, 10);
     }
 
+    @Promise(n = 39, says = "Answers below 0, where not told otherwise, are refusals")
+    void actsAsLowAsRefusals() {
+        SizedParts x = thing(STORE, 0, 1);
+        for (int low = -20; low < 0; low++) {
+            acts(x, 0, low - 1, low, 10);
+            acts(x, 2, low, low, 12);
+        }
+    }
+
     @Promise(n = 39, says = "12 parts: x by (a - n), the rest away")
     void partsCutsTowards0AndWraps() {
         SizedParts x = thing(SOURCE, 2, 5); // by 3

@@ -158,6 +158,13 @@ final class EdgesOfTicks extends Edges {
         is("its own first node", x.flow(2, state(5, 0, 0), 4), 2);
     }
 
+    @Promise(n = 10, says = "Answers below 0, where not told otherwise, are refusals")
+    void flowAsLowAsRefusals() {
+        SizedParts x = withLine();
+        x.part(BRIDGE, 23, 1, 5, 0);
+        for (int fall = 1; fall <= 20; fall++) is("back by " + fall, x.flow(0, state(0, fall, 0), 4), -fall);
+    }
+
     @Promise(n = 10, says = "PAIR: as a VALVE with the SIZE of its TWIN in place of its own (of a TWIN that is a PAIR: its own SIZE as it is told).")
     void pairHasTheSizeOfItsTwin() {
         SizedParts x = withLine();
@@ -498,5 +505,16 @@ final class EdgesOfTicks extends Edges {
             for (int node = 0; node <= 4; node++) is("node " + node + " from " + feed, x.gain(node, 4), due[node]);
             is("the feed stays", x.many(8), feed);
         }
+    }
+
+    @Promise(n = 15, says = {"Answers below 0, where not told otherwise, are refusals", "its LEVEL in THE END with THE FEED 1 higher, less that as it is"})
+    void gainBelow0() {
+        SizedParts x = new SizedParts();
+        x.part(SOURCE, 12, 4, 0, 0);
+        x.breaks(0, 2);
+        x.start(state(11, 0, 0));
+        is("11 stays with 11; 11, 1, 20, 0, 20 with 10", x.gain(2, 4), -9);
+        x.start(state(10, 0, 0));
+        is("10, 20, 0, 20 with 11; 10 stays with 10", x.gain(2, 4), 10);
     }
 }
