@@ -35,11 +35,13 @@ public final class EdgeTests {
 
     public static void main(String[] args) throws Exception {
         EdgeTests tests = new EdgeTests();
-        tests.readDocument();
+        boolean documented = Files.exists(DOCUMENT);
+        if (documented) tests.readDocument();
+        else System.out.println("there is no " + DOCUMENT + ": the tests' words were not held against it");
         for (Class<?> c : new Class<?>[] {EdgesOfParts.class, EdgesOfTicks.class, EdgesOfWishes.class, EdgesOfSizing.class, EdgesOfHost.class, EdgesOfKept.class}) {
             tests.run(c);
         }
-        tests.holdAgainstTheDocument();
+        if (documented) tests.holdAgainstTheDocument();
         System.out.println(tests.passed + " passed, " + tests.failed + " failed");
         if (tests.failed > 0) System.exit(1);
     }
@@ -63,6 +65,7 @@ public final class EdgeTests {
             edges.begin("promise " + promise.n() + ", " + m.getName());
             m.invoke(edges);
             count(edges.passed());
+            if (sections.isEmpty()) continue;
             for (String words : promise.says()) count(mark(promise.n(), m.getName(), words));
         }
     }
