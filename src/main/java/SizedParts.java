@@ -22,10 +22,10 @@ public final class SizedParts {
 
     private final Plan now = new Plan();
     private final Plan kept = new Plan();
-    private final Bench bench = new Bench();
+    private final Search search = new Search();
+    private final Bench bench = search.bench; // one for all calls, as each sets it up anew
     private final Rests atRest = new Rests();
     private final Reader reader = new Reader();
-    private final Search search = new Search(bench);
     private final Host host = new Host();
     private final Acts acts = new Acts();
     private final int[] rowPart = new int[MAX_OPEN];
@@ -970,14 +970,10 @@ public final class SizedParts {
 
         final int[] openPart = new int[MAX_OPEN];
         final int[] chosen = new int[MAX_OPEN];
+        final Bench bench = new Bench();
         int openCount, sum;
-        private final Bench bench;
         private final Plan trial = new Plan();
         private final int[] stack = new int[STACK];
-
-        Search(Bench itsBench) {
-            bench = itsBench;
-        }
 
         // ---- wishes
 

@@ -164,6 +164,19 @@ final class EdgesOfWishes extends Edges {
         fault("wisH 1=1;", 0);
     }
 
+    @Promise(n = 17, says = {"VALUE: N | node K | flow P | pace | ring | feed", "with which no TEXT goes on, or that is not as told"})
+    void namesOfTheGrammarAreNoWordsOfIt() {
+        fault("wish N=1;", 5);
+        fault("wish node K=1;", 10);
+        fault("wish flow P=1;", 10);
+        fault("wish 1=node K;", 12);
+        fault("wish cond;", 5);
+        fault("wish COND;", 5);
+        fault("end", 0);
+        fault("wish 1=1;end", 9);
+        fault("wish number=1;", 5);
+    }
+
     @Promise(n = 17, says = "NUMBERS rows of digits")
     void digitsAre0To9() {
         isText("wish 123+456+789+0=9;", 1);

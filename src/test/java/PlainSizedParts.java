@@ -265,9 +265,12 @@ final class PlainSizedParts {
         return wishes.size();
     }
 
-    /** A row of what may come next, without a grammar's recursion: the place of the FAULT, or -1. */
+    /**
+     * A row of what may come next, without a grammar's recursion: the place of the FAULT, or -1. What begins with # is
+     * a sort of things; no TEXT can spell it, as a # is always a thing by itself.
+     */
     static int fault(String text, List<List<String>> wishes) {
-        String may = "wish end";
+        String may = "wish #end";
         int at = 0, open = 0;
         boolean right = false; // behind a SIGN
         while (true) {
@@ -275,28 +278,28 @@ final class PlainSizedParts {
             int to = at + 1;
             String token, sort;
             if (at == text.length()) {
-                token = sort = "end";
+                token = sort = "#end";
             } else {
                 char c = text.charAt(at);
                 boolean letter = c >= 'a' && c <= 'z', digit = c >= '0' && c <= '9';
                 while (to < text.length() && (letter && text.charAt(to) >= 'a' && text.charAt(to) <= 'z'
                     || digit && text.charAt(to) >= '0' && text.charAt(to) <= '9')) to++;
                 token = sort = text.substring(at, to);
-                if (digit) sort = token.length() > 3 ? "long" : "number";
+                if (digit) sort = token.length() > 3 ? "#long" : "#N";
             }
-            if (sort.equals("number") && Arrays.asList(may.split(" ")).contains("K")) {
+            if (sort.equals("#N") && may.equals("#K")) {
                 if (Integer.parseInt(token) > 4) return at;
-                sort = "K";
-            } else if (sort.equals("number") && Arrays.asList(may.split(" ")).contains("P")) {
+                sort = "#K";
+            } else if (sort.equals("#N") && may.equals("#P")) {
                 if (Integer.parseInt(token) > 9) return at;
-                sort = "P";
+                sort = "#P";
             }
             if (!Arrays.asList(may.split(" ")).contains(sort)) return at;
-            if (sort.equals("end")) return -1;
+            if (sort.equals("#end")) return -1;
             if (sort.equals("wish") && wishes.size() == 8) return at;
             if (sort.equals("wish")) wishes.add(new ArrayList<>());
             else wishes.get(wishes.size() - 1).add(token);
-            String one = "not ( number node flow pace ring feed", value = "number node flow pace ring feed";
+            String one = "not ( #N node flow pace ring feed", value = "#N node flow pace ring feed";
             if (sort.equals("(") && open == 4) return at;
             if (sort.equals("(")) open++;
             if (sort.equals(")")) open--;
@@ -306,10 +309,10 @@ final class PlainSizedParts {
             switch (sort) {
                 case "wish": case "or": case "and": case "not": case "(": may = one; break;
                 case "<": case "=": case ">": case "+": may = value; break;
-                case "node": may = "K"; break;
-                case "flow": may = "P"; break;
+                case "node": may = "#K"; break;
+                case "flow": may = "#P"; break;
                 case ")": may = behind; break;
-                case ";": may = "wish end"; break;
+                case ";": may = "wish #end"; break;
                 default: may = right ? "+ " + behind : "+ < = >";
             }
             at = to;

@@ -18,6 +18,10 @@ public final class RandomRunTests {
         "gain", "feed", "read", "missed", "worst", "holds", "open", "sizing", "prove", "row", "alterRow", "judge", "far",
         "falls", "change", "help", "measured", "which", "sheet", "put", "item", "sizes", "shelf", "taken", "act", "trace",
         "many", "keep", "again"};
+    /** Things of a TEXT, and some that only look like one. */
+    private static final String[] THINGS = {
+        " wish ", " or ", " and ", " not ", " node ", " flow ", " pace ", " ring ", " feed ", " 0 ", " 9 ", " 12 ", " 1234 ", "(", ")", " end ",
+        " number ", " N ", " K ", " P ", "#N", "wish"};
 
     private final Random random;
     private final long seed;
@@ -179,10 +183,11 @@ public final class RandomRunTests {
         int at = random.nextInt(text.length());
         char c = "wishnode 0123456789()+<>=;;  or and not".charAt(random.nextInt(39));
         if (random.nextInt(20) == 0) c = (char) random.nextInt(256);
-        switch (random.nextInt(4)) {
+        switch (random.nextInt(5)) {
             case 0: text.setCharAt(at, c); break;
             case 1: text.insert(at, c); break;
             case 2: text.deleteCharAt(at); break;
+            case 3: text.insert(at, THINGS[random.nextInt(THINGS.length)]); break;
             default: text.setLength(at);
         }
     }

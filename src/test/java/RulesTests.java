@@ -47,6 +47,7 @@ public final class RulesTests {
         face();
         inside();
         words();
+        constructors();
         lengths();
         depths();
         room();
@@ -137,6 +138,16 @@ public final class RulesTests {
             String line = made.group().trim();
             rule("made for good: " + line, line.startsWith("final ") || line.startsWith("private ") || line.equals("for (int i = 0; i < MAX_PARTS; i++) parts[i] = new Part();"));
         }
+    }
+
+    /** Rule 12: a constructor hands out nothing of the object that it makes, so that none is given anything. */
+    private static void constructors() throws Exception {
+        String bare = bare(Files.readString(SOURCE, StandardCharsets.ISO_8859_1));
+        Matcher made = Pattern.compile("\\bnew \\w+\\(([^)]*)\\)").matcher(bare);
+        int many = 0;
+        for (; made.find(); many++) rule(made.group() + " is handed nothing", made.group(1).isEmpty());
+        rule("objects are made", many > 0);
+        rule("no object hands out itself", !Pattern.compile("\\bthis\\b").matcher(bare).find());
     }
 
     private static void lengths() throws Exception {
